@@ -1,0 +1,102 @@
+/** Promise 20: search. */
+public final class SearchTest {
+    public static void main(String[] args) {
+        promise20Material();
+        promise20OneAhead();
+        promise20TwoAhead();
+        promise20NoMove();
+        promise20VerdictsNotLookedAt();
+        promise20Wrong();
+        promise20ChangesNothing();
+        Due.finish();
+    }
+
+    private static void values(String fen, int zero, int one, int two) {
+        MateArbiter x = Boards.game(fen);
+        Due.due("search(0) of " + fen, x.search(0), zero);
+        Due.due("search(1) of " + fen, x.search(1), one);
+        Due.due("search(2) of " + fen, x.search(2), two);
+    }
+
+    private static void promise20Material() {
+        Due.due("search(0)", new MateArbiter().search(0), 0);
+        String[] pieces = {"P", "N", "B", "R", "Q"};
+        int[] worth = {1, 3, 3, 5, 9};
+        for (int i = 0; i < 5; i++) {
+            String white = "7k/8/8/8/" + pieces[i] + "7/8/8/K7 ";
+            String black = "k7/8/8/8/7" + pieces[i].toLowerCase() + "/8/8/K7 ";
+            Due.due(white, Boards.game(white + "w - -").search(0), worth[i]);
+            Due.due(white + "b", Boards.game(white + "b - -").search(0), -worth[i]);
+            Due.due(black, Boards.game(black + "w - -").search(0), -worth[i]);
+            Due.due(black + "b", Boards.game(black + "b - -").search(0), worth[i]);
+        }
+    }
+
+    private static void promise20OneAhead() {
+        values("4k3/8/8/3p4/4P3/8/8/4K3 w - -", 0, 1, 1);
+        values("4k3/8/4p3/3p4/4P3/8/8/4K3 w - -", -1, 0, -1);
+        values("4k3/8/8/3pP3/8/8/8/4K3 w - d6", 0, 1, 1);
+        values("4k3/8/8/3pP3/8/8/8/4K3 w - -", 0, 0, 0);
+        values("1n5k/P7/8/8/8/8/8/K7 w - -", -2, 9, 9);
+        values("7k/8/8/8/8/8/p7/1N5K b - -", -2, 9, 9);
+        values("k3r3/8/8/8/5q2/8/4N3/4K3 w - -", -11, -11, -14);
+        values("4k3/8/8/8/8/8/4q3/4K3 w - -", -9, 0, 0);
+        values("4k3/8/8/8/8/5b2/4q3/4K3 w - -", -12, -1000, -1000);
+    }
+
+    private static void promise20TwoAhead() {
+        values("6k1/5ppp/8/8/8/8/8/R3K3 w Q -", 2, 2, 1000);
+        values("4k3/8/8/3q4/8/8/8/3RK3 w - -", -4, 5, 5);
+        values("3rk3/8/8/3p4/8/8/8/3RK3 w - -", -1, 0, -1);
+        values("7k/8/6K1/8/8/8/8/5Q2 w - -", 9, 9, 1000);
+    }
+
+    private static void promise20NoMove() {
+        values("R5k1/5ppp/8/8/8/8/8/4K3 b - -", -2, -1000, -1000);
+        values("7k/5Q2/6K1/8/8/8/8/8 b - -", -9, 0, 0);
+    }
+
+    private static void promise20VerdictsNotLookedAt() {
+        values("4k3/8/8/8/8/8/8/2B1K3 w - -", 3, 3, 3);
+        values("4k3/8/8/8/8/8/4n3/2B1K3 w - -", 0, 3, 3);
+        MateArbiter x = new MateArbiter();
+        Boards.playAll(x, "e2e4 d7d5");
+        for (int i = 0; i < 4; i++) {
+            Boards.playAll(x, "g1f3 g8f6 f3g1 f6g8");
+        }
+        Due.due("five times", x.verdict(), 4);
+        Due.due("search(1) all the same", x.search(1), 1);
+    }
+
+    private static void promise20Wrong() {
+        MateArbiter x = new MateArbiter();
+        int[] wrong = {-1, 3, 4, 100, Integer.MIN_VALUE, Integer.MAX_VALUE};
+        for (int depth : wrong) {
+            Due.due("search(" + depth + ")", x.search(depth), -10000);
+        }
+        x.clear();
+        for (int depth = -1; depth <= 3; depth++) {
+            Due.due("setting up: search(" + depth + ")", x.search(depth), -10000);
+        }
+    }
+
+    private static void promise20ChangesNothing() {
+        String[] fens = {
+            "r3k2r/p1ppqpb1/bn2pnp1/3PN3/1p2P3/2N2Q1p/PPPBBPPP/R3K2R w KQkq -",
+            "r3k2r/p1ppqpb1/bn2pnp1/3PN3/1p2P3/2N2Q1p/PPPBBPPP/R3K2R b KQkq -",
+            "n1n5/PPPk4/8/8/8/8/4Kppp/5N1N b - -",
+            "4k3/8/8/2PpP3/8/8/8/4K3 w - d6",
+        };
+        for (String fen : fens) {
+            MateArbiter x = Boards.game(fen);
+            String before = Boards.state(x);
+            int first = x.legal(0);
+            int value = x.search(2);
+            Due.due("search(2) again", x.search(2), value);
+            x.search(1);
+            x.search(0);
+            Due.due("nothing changed in " + fen, Boards.state(x).equals(before), true);
+            Due.due("legal(0) of " + fen, x.legal(0), first);
+        }
+    }
+}
