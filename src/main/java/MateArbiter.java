@@ -74,11 +74,13 @@ public final class MateArbiter {
     private boolean on;
 
     public MateArbiter() {
-        beginStandardGame();
+        position.board.fillStandard();
+        beginGame(WHITE, ALL_RIGHTS, NO_SQUARE);
     }
 
     public void standard() {
-        beginStandardGame();
+        position.board.fillStandard();
+        beginGame(WHITE, ALL_RIGHTS, NO_SQUARE);
     }
 
     public void clear() {
@@ -220,18 +222,6 @@ public final class MateArbiter {
         return depth == 1 ? lookOneAhead() : lookTwoAhead();
     }
 
-    private void beginStandardGame() {
-        Board board = position.board;
-        board.wipe();
-        for (int file = 0; file < 8; file++) {
-            board.cells[file] = FIRST_RANK[file];
-            board.cells[8 + file] = PAWN;
-            board.cells[48 + file] = PAWN + BLACK_BIT;
-            board.cells[56 + file] = FIRST_RANK[file] + BLACK_BIT;
-        }
-        beginGame(WHITE, ALL_RIGHTS, NO_SQUARE);
-    }
-
     private void beginGame(int side, int rights, int passant) {
         position.begin(side, rights, passant);
         on = true;
@@ -241,7 +231,9 @@ public final class MateArbiter {
     }
 
     private void findLegalMoves() {
-        MoveFinder.collect(position, scratch);
+        scratch.size = 0;
+        MoveFinder.addPieceMoves(position, scratch);
+        MoveFinder.addCastlings(position, scratch);
         legalMoves.size = 0;
         for (int i = 0; i < scratch.size; i++) {
             int code = scratch.codes[i];
@@ -269,7 +261,9 @@ public final class MateArbiter {
     // The value after a move is known from what it gains, so the dear question whether a move is
     // legal is asked only of those that would gain more than the best one so far.
     private int lookOneAhead() {
-        MoveFinder.collect(position, scratch);
+        scratch.size = 0;
+        MoveFinder.addPieceMoves(position, scratch);
+        MoveFinder.addCastlings(position, scratch);
         int best = -1;
         for (int i = 0; i < scratch.size; i++) {
             int code = scratch.codes[i];
@@ -360,6 +354,16 @@ public final class MateArbiter {
 
         void wipe() {
             Arrays.fill(cells, NO_PIECE);
+        }
+
+        void fillStandard() {
+            wipe();
+            for (int file = 0; file < 8; file++) {
+                cells[file] = pieceOf(FIRST_RANK[file], WHITE);
+                cells[8 + file] = pieceOf(PAWN, WHITE);
+                cells[48 + file] = pieceOf(PAWN, BLACK);
+                cells[56 + file] = pieceOf(FIRST_RANK[file], BLACK);
+            }
         }
 
         int findKing(int side) {
@@ -585,23 +589,24 @@ public final class MateArbiter {
 
     /** Finds the moves of the side to move, those that leave it in check among them. */
     private static final class MoveFinder {
-        static void collect(Position position, MoveRow row) {
-            row.size = 0;
+        static void addPieceMoves(Position position, MoveRow row) {
             for (int from = 0; from < 64; from++) {
                 int piece = position.board.cells[from];
-                if (isOf(piece, position.side)) {
-                    addMovesOf(kindOf(piece), position, from, row);
+                if (!isOf(piece, position.side)) {
+                    continue;
+                }
+                if (kindOf(piece) == PAWN) {
+                    addPawnSteps(position, from, row);
+                    addPawnTakings(position, from, row);
+                } else {
+                    addRides(position, from, row);
                 }
             }
-            addCastlings(position, row);
         }
 
-        private static void addMovesOf(int kind, Position position, int from, MoveRow row) {
-            if (kind == PAWN) {
-                addPawnSteps(position, from, row);
-                addPawnTakings(position, from, row);
-                return;
-            }
+        // Knight and king ride too, but one step far.
+        private static void addRides(Position position, int from, MoveRow row) {
+            int kind = kindOf(position.board.cells[from]);
             for (int way = 0; way < 8; way++) {
                 boolean isDiagonal = WAY_FILE[way] != 0 && WAY_RANK[way] != 0;
                 if (kind == KNIGHT) {
@@ -672,7 +677,7 @@ public final class MateArbiter {
         }
 
         // A right that is still there says that king and rook stand on their squares.
-        private static void addCastlings(Position position, MoveRow row) {
+        static void addCastlings(Position position, MoveRow row) {
             Board board = position.board;
             int other = 1 - position.side;
             int home = KING_HOME[2 * position.side];

@@ -48,6 +48,20 @@ public final class ReferenceTest {
             }
         }
         Due.due(run + ": as many moves as calls", want.plies(), CALLS);
+        callOnAndOn();
+    }
+
+    // What an object answers after its last promised call is free, but it must never throw.
+    private void callOnAndOn() {
+        for (int i = 0; i < 2 * CALLS; i++) {
+            int code = x.legal(i % Math.max(1, x.moves()));
+            x.move(code & 63, code >> 6 & 63, code >> 12 & 7);
+            x.verdict();
+            x.claims();
+        }
+        for (int i = 0; i < 2 * CALLS; i++) {
+            x.back();
+        }
     }
 
     private boolean goesOn(int code) {

@@ -235,6 +235,8 @@ public final class SettingUpTest {
         starts("4k3/8/8/8/4P3/4N3/8/4K3 b - e3", MateArbiter.PASSANT);
         starts("4k3/8/8/8/4P3/8/4N3/4K3 b - e3", MateArbiter.PASSANT);
         starts("4k3/8/8/4p3/8/8/8/4K3 w - d6", MateArbiter.PASSANT);
+        starts("4k3/8/8/8/8/8/4p3/4K3 w - e3", MateArbiter.PASSANT);
+        starts("4k3/4P3/8/8/8/8/8/4K3 b - e6", MateArbiter.PASSANT);
         starts("4k3/8/8/7p/8/8/8/4K3 w - h6", 0);
         starts("4k3/8/8/8/P7/8/8/4K3 b - a3", 0);
         for (int passant = 0; passant < 64; passant++) {

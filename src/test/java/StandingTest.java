@@ -163,6 +163,8 @@ public final class StandingTest {
         stands("4k3/8/1b6/8/8/8/2B5/4K3 w - -", 0);
         stands("4k3/8/1b6/8/8/8/3B4/1B2K3 w - -", 0);
         stands("4k3/8/1b6/b7/8/8/1B6/3K4 w - -", 0);
+        stands("4k3/8/1b6/8/8/8/1B5N/4K3 w - -", 0);
+        stands("4k3/n7/1b6/8/8/8/1B6/4K3 w - -", 0);
     }
 
     private static void dance(MateArbiter x, int times) {
