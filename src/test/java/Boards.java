@@ -9,15 +9,21 @@ final class Boards {
         return name.charAt(0) - 'a' + 8 * (name.charAt(1) - '1');
     }
 
-    /** A new object, setting up, with the pieces of the first field. */
-    static MateArbiter pieces(String fen) {
-        MateArbiter x = new MateArbiter();
+    /** A new object, setting up. */
+    static Arbiter empty() {
+        Arbiter x = new Arbiter();
         x.clear();
+        return x;
+    }
+
+    /** A new object, setting up, with the pieces of the first field. */
+    static Arbiter pieces(String fen) {
+        Arbiter x = empty();
         fill(x, fen);
         return x;
     }
 
-    static void fill(MateArbiter x, String fen) {
+    static void fill(Arbiter x, String fen) {
         int file = 0;
         int rank = 7;
         for (char c : fen.split(" ")[0].toCharArray()) {
@@ -33,7 +39,7 @@ final class Boards {
         }
     }
 
-    static int start(MateArbiter x, String fen) {
+    static int start(Arbiter x, String fen) {
         String[] fields = fen.split(" ");
         int rights = 0;
         for (char c : fields[2].toCharArray()) {
@@ -44,8 +50,8 @@ final class Boards {
     }
 
     /** A new object with a game from the position. */
-    static MateArbiter game(String fen) {
-        MateArbiter x = pieces(fen);
+    static Arbiter game(String fen) {
+        Arbiter x = pieces(fen);
         int code = start(x, fen);
         if (code != 0) {
             Due.due("start of " + fen, code, 0);
@@ -54,20 +60,20 @@ final class Boards {
     }
 
     /** Makes a move such as e2e4 or e7e8q. */
-    static int play(MateArbiter x, String move) {
+    static int play(Arbiter x, String move) {
         int promotion = move.length() < 5 ? 0 : " .nbrq".indexOf(move.charAt(4));
         return x.move(square(move.substring(0, 2)), square(move.substring(2, 4)), promotion);
     }
 
     /** Makes moves that must all be legal. */
-    static void playAll(MateArbiter x, String moves) {
+    static void playAll(Arbiter x, String moves) {
         for (String move : moves.split(" ")) {
             Due.due("move " + move + " of " + moves, play(x, move), 0);
         }
     }
 
     /** What stands where, and all that the object tells of the game, as one text. */
-    static String state(MateArbiter x) {
+    static String state(Arbiter x) {
         StringBuilder text = new StringBuilder();
         for (int square = 0; square < 64; square++) {
             text.append(x.piece(square)).append(' ');
@@ -79,10 +85,11 @@ final class Boards {
     }
 
     /** Whether the move is in the list that legal() tells. */
-    static boolean lists(MateArbiter x, String move) {
+    static boolean lists(Arbiter x, String move) {
         int promotion = move.length() < 5 ? 0 : " .nbrq".indexOf(move.charAt(4));
         int code = square(move.substring(0, 2)) + 64 * square(move.substring(2, 4)) + 4096 * promotion;
-        for (int i = 0; i < x.moves(); i++) {
+        int count = x.moves();
+        for (int i = 0; i < count; i++) {
             if (x.legal(i) == code) {
                 return true;
             }

@@ -13,13 +13,13 @@ public final class PerftTest {
     }
 
     private static void count(String fen, long one, long two, long three) {
-        MateArbiter x = Boards.game(fen);
+        Arbiter x = Boards.game(fen);
         Due.due(fen + " one ply", x.moves(), one);
         long replies = 0;
         long third = 0;
         for (int i = 0; i < one; i++) {
             int first = x.legal(i);
-            MateArbiter y = Boards.game(fen);
+            Arbiter y = Boards.game(fen);
             Due.due(fen + " makes " + first, make(y, first), 0);
             int count = y.moves();
             replies += count;
@@ -34,7 +34,7 @@ public final class PerftTest {
         Due.due(fen + " three plies", third, three);
     }
 
-    private static int make(MateArbiter x, int code) {
+    private static int make(Arbiter x, int code) {
         return x.move(code % 64, code / 64 % 64, code / 4096);
     }
 }

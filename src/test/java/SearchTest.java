@@ -6,20 +6,19 @@ public final class SearchTest {
         promise20TwoAhead();
         promise20NoMove();
         promise20VerdictsNotLookedAt();
-        promise20Wrong();
         promise20ChangesNothing();
         Due.finish();
     }
 
     private static void values(String fen, int zero, int one, int two) {
-        MateArbiter x = Boards.game(fen);
+        Arbiter x = Boards.game(fen);
         Due.due("search(0) of " + fen, x.search(0), zero);
         Due.due("search(1) of " + fen, x.search(1), one);
         Due.due("search(2) of " + fen, x.search(2), two);
     }
 
     private static void promise20Material() {
-        Due.due("search(0)", new MateArbiter().search(0), 0);
+        Due.due("search(0)", new Arbiter().search(0), 0);
         String[] pieces = {"P", "N", "B", "R", "Q"};
         int[] worth = {1, 3, 3, 5, 9};
         for (int i = 0; i < 5; i++) {
@@ -59,25 +58,13 @@ public final class SearchTest {
     private static void promise20VerdictsNotLookedAt() {
         values("4k3/8/8/8/8/8/8/2B1K3 w - -", 3, 3, 3);
         values("4k3/8/8/8/8/8/4n3/2B1K3 w - -", 0, 3, 3);
-        MateArbiter x = new MateArbiter();
+        Arbiter x = new Arbiter();
         Boards.playAll(x, "e2e4 d7d5");
         for (int i = 0; i < 4; i++) {
             Boards.playAll(x, "g1f3 g8f6 f3g1 f6g8");
         }
         Due.due("five times", x.verdict(), 4);
         Due.due("search(1) all the same", x.search(1), 1);
-    }
-
-    private static void promise20Wrong() {
-        MateArbiter x = new MateArbiter();
-        int[] wrong = {-1, 3, 4, 100, Integer.MIN_VALUE, Integer.MAX_VALUE};
-        for (int depth : wrong) {
-            Due.due("search(" + depth + ")", x.search(depth), -10000);
-        }
-        x.clear();
-        for (int depth = -1; depth <= 3; depth++) {
-            Due.due("setting up: search(" + depth + ")", x.search(depth), -10000);
-        }
     }
 
     private static void promise20ChangesNothing() {
@@ -88,7 +75,7 @@ public final class SearchTest {
             "4k3/8/8/2PpP3/8/8/8/4K3 w - d6",
         };
         for (String fen : fens) {
-            MateArbiter x = Boards.game(fen);
+            Arbiter x = Boards.game(fen);
             String before = Boards.state(x);
             int first = x.legal(0);
             int value = x.search(2);

@@ -10,16 +10,16 @@ public final class SettingUpTest {
         promise4PutRefuses();
         promise5StartBad();
         promise5StartMen();
+        promise5StartKings();
         promise5StartPawns();
         promise5StartCheck();
         promise5StartRights();
         promise5StartPassant();
-        promise5Order();
         promise8Piece();
         Due.finish();
     }
 
-    private static void standardStands(String when, MateArbiter x) {
+    private static void standardStands(String when, Arbiter x) {
         for (int file = 0; file < 8; file++) {
             Due.due(when + ": piece(" + file + ")", x.piece(file), FIRST_RANK[file]);
             Due.due(when + ": piece(" + (file + 8) + ")", x.piece(file + 8), 1);
@@ -40,15 +40,15 @@ public final class SettingUpTest {
     }
 
     private static void promise1NewObject() {
-        standardStands("new", new MateArbiter());
-        MateArbiter first = new MateArbiter();
-        MateArbiter second = new MateArbiter();
+        standardStands("new", new Arbiter());
+        Arbiter first = new Arbiter();
+        Arbiter second = new Arbiter();
         first.move(12, 28, 0);
         Due.due("two objects share nothing", second.piece(28), 0);
     }
 
     private static void promise2Standard() {
-        MateArbiter x = new MateArbiter();
+        Arbiter x = new Arbiter();
         Boards.playAll(x, "g1f3 g8f6 f3g1 f6g8 g1f3 g8f6 f3g1 f6g8");
         Due.due("three times", x.claims(), 1);
         x.standard();
@@ -60,13 +60,13 @@ public final class SettingUpTest {
         x.put(30, 5);
         x.standard();
         standardStands("standard while setting up", x);
-        MateArbiter after = Boards.game("4k3/8/8/8/8/8/8/4K2R b K -");
+        Arbiter after = Boards.game("4k3/8/8/8/8/8/8/4K2R b K -");
         after.standard();
         standardStands("standard after another game", after);
     }
 
     private static void promise3Clear() {
-        MateArbiter x = new MateArbiter();
+        Arbiter x = new Arbiter();
         Boards.playAll(x, "e2e4 e7e5");
         x.clear();
         noGame("clear in a game", x);
@@ -79,7 +79,7 @@ public final class SettingUpTest {
         noGame("clear while setting up", x);
     }
 
-    private static void noGame(String when, MateArbiter x) {
+    private static void noGame(String when, Arbiter x) {
         Due.due(when + ": side", x.side(), -1);
         Due.due(when + ": rights", x.rights(), -1);
         Due.due(when + ": passant", x.passant(), -1);
@@ -98,8 +98,7 @@ public final class SettingUpTest {
     }
 
     private static void promise4Put() {
-        MateArbiter x = new MateArbiter();
-        x.clear();
+        Arbiter x = Boards.empty();
         for (int piece = 0; piece <= 14; piece++) {
             boolean isPiece = piece != 7 && piece != 8;
             Due.due("put(20, " + piece + ")", x.put(20, piece), isPiece);
@@ -115,53 +114,33 @@ public final class SettingUpTest {
     }
 
     private static void promise4PutRefuses() {
-        MateArbiter x = new MateArbiter();
+        Arbiter x = new Arbiter();
         Due.due("put in a game", x.put(20, 1), false);
         Due.due("after put in a game", x.piece(20), 0);
         Boards.playAll(x, "f2f3 e7e5 g2g4 d8h4");
         Due.due("put after mate", x.put(20, 1), false);
         x.clear();
-        int[] squares = {-1, 64, 65, -64, 100000, Integer.MIN_VALUE, Integer.MAX_VALUE};
-        for (int square : squares) {
-            Due.due("put(" + square + ", 1)", x.put(square, 1), false);
-        }
-        int[] pieces = {-1, 7, 8, 15, 16, 17, -8, -7, 22, Integer.MIN_VALUE, Integer.MAX_VALUE};
-        x.put(20, 3);
-        for (int piece : pieces) {
-            Due.due("put(20, " + piece + ")", x.put(20, piece), false);
-            Due.due("piece(20) after it", x.piece(20), 3);
-        }
         x.put(4, 6);
         x.put(60, 14);
         x.start(0, 0, -1);
         Due.due("put after start", x.put(30, 1), false);
     }
 
+    // Numbers out of their ranges: RangeTest.
     private static void promise5StartBad() {
-        MateArbiter x = new MateArbiter();
+        Arbiter x = new Arbiter();
         Due.due("start in a game", x.start(0, 15, -1), MateArbiter.BAD);
         x.clear();
         Boards.fill(x, "4k3/8/8/8/8/8/8/4K3 w - -");
-        int[] sides = {-1, 2, 8, Integer.MIN_VALUE, Integer.MAX_VALUE};
-        for (int side : sides) {
-            Due.due("start(" + side + ", 0, -1)", x.start(side, 0, -1), MateArbiter.BAD);
-        }
-        int[] rights = {-1, 16, 32, Integer.MIN_VALUE, Integer.MAX_VALUE};
-        for (int right : rights) {
-            Due.due("start(0, " + right + ", -1)", x.start(0, right, -1), MateArbiter.BAD);
-        }
-        int[] squares = {-2, 64, Integer.MIN_VALUE, Integer.MAX_VALUE};
-        for (int square : squares) {
-            Due.due("start(0, 0, " + square + ")", x.start(0, 0, square), MateArbiter.BAD);
-        }
-        Due.due("still setting up", x.side(), -1);
         Due.due("start(1, 0, -1)", x.start(1, 0, -1), 0);
         Due.due("side", x.side(), 1);
         Due.due("start again", x.start(1, 0, -1), MateArbiter.BAD);
+        Due.due("start of the other side", x.start(0, 0, -1), MateArbiter.BAD);
+        Due.due("side", x.side(), 1);
     }
 
     private static void starts(String fen, int want) {
-        MateArbiter x = Boards.pieces(fen);
+        Arbiter x = Boards.pieces(fen);
         Due.due("start of " + fen, Boards.start(x, fen), want);
         if (want != 0) {
             noGame("refused " + fen, x);
@@ -179,14 +158,56 @@ public final class SettingUpTest {
         starts("4k3/nnnnnnn1/8/pppppppp/8/8/8/4K3 b - -", 0);
         starts("4k3/nnnnnnnn/8/pppppppp/8/8/8/4K3 b - -", MateArbiter.MEN);
         starts("4k3/8/pppppppp/PPPPPPPP/8/8/8/4K3 b - -", 0);
+        for (int piece = 1; piece <= 5; piece++) {
+            for (int side = 0; side < 2; side++) {
+                startsWithMen(side, piece + 8 * side, 15, 0);
+                startsWithMen(side, piece + 8 * side, 16, MateArbiter.MEN);
+                startsWithMen(side, piece + 8 * side, 17, MateArbiter.MEN);
+            }
+        }
+    }
+
+    // The side with the many is not to move, so its attacks on the other king are no fault.
+    private static void startsWithMen(int side, int piece, int beside, int want) {
+        Arbiter x = Boards.pieces("4k3/8/8/8/8/8/8/4K3");
+        for (int i = 0; i < beside; i++) {
+            x.put(16 + i, piece);
+        }
+        Due.due(beside + " times " + piece + " beside the king", x.start(1 - side, 0, -1), want);
+    }
+
+    private static void promise5StartKings() {
+        int[] white = {4, 14, 31};
+        int[] black = {60, 49, 39};
+        for (int whites = 0; whites <= 3; whites++) {
+            for (int blacks = 0; blacks <= 3; blacks++) {
+                Arbiter x = Boards.empty();
+                for (int i = 0; i < 3; i++) {
+                    x.put(white[i], i < whites ? 6 : 0);
+                    x.put(black[i], i < blacks ? 14 : 0);
+                }
+                int want = whites == 1 && blacks == 1 ? 0 : MateArbiter.MEN;
+                Due.due(whites + " white kings, " + blacks + " black", x.start(0, 0, -1), want);
+            }
+        }
     }
 
     private static void promise5StartPawns() {
-        starts("4k3/8/8/8/8/8/8/P3K3 w - -", MateArbiter.PAWNS);
-        starts("4k2P/8/8/8/8/8/8/4K3 w - -", MateArbiter.PAWNS);
-        starts("p3k3/8/8/8/8/8/8/4K3 w - -", MateArbiter.PAWNS);
-        starts("4k3/8/8/8/8/8/8/4K2p w - -", MateArbiter.PAWNS);
-        starts("4k3/P6p/8/8/8/8/p6P/4K3 w - -", 0);
+        for (int file = 0; file < 8; file++) {
+            for (int pawn = 1; pawn <= 9; pawn += 8) {
+                startsWithPawn(file, pawn, MateArbiter.PAWNS);
+                startsWithPawn(56 + file, pawn, MateArbiter.PAWNS);
+                startsWithPawn(8 + file, pawn, 0);
+                startsWithPawn(48 + file, pawn, 0);
+            }
+        }
+    }
+
+    // The kings stand where no pawn of the outer four ranks attacks them.
+    private static void startsWithPawn(int square, int pawn, int want) {
+        Arbiter x = Boards.pieces("8/8/8/k7/7K/8/8/8");
+        x.put(square, pawn);
+        Due.due("pawn " + pawn + " on " + square, x.start(0, 0, -1), want);
     }
 
     private static void promise5StartCheck() {
@@ -215,11 +236,36 @@ public final class SettingUpTest {
         starts("4k3/8/4p3/8/8/4P3/8/4K2r b K -", MateArbiter.CHECK);
         starts("4k2R/8/8/8/8/8/8/4K3 b k -", MateArbiter.RIGHTS);
         starts("r3k2r/8/8/8/8/8/8/2K5 w kq -", 0);
-        for (int rights = 0; rights < 16; rights++) {
-            MateArbiter x = Boards.pieces("r3k2r/8/8/8/8/8/8/R3K2R");
-            Due.due("start(0, " + rights + ", -1)", x.start(0, rights, -1), 0);
-            Due.due("rights()", x.rights(), rights);
+        for (int right = 0; right < 4; right++) {
+            for (int piece = 0; piece <= 13; piece++) {
+                if (piece != 7 && piece != 8 && piece % 8 != 1 && piece % 8 != 6) {
+                    cornerHolds(right, piece);
+                    kingsSquareHolds(right, piece);
+                }
+            }
         }
+    }
+
+    private static void cornerHolds(int right, int piece) {
+        int[] corners = {7, 0, 63, 56};
+        int side = right / 2;
+        Arbiter x = Boards.pieces("4k3/8/8/8/8/8/8/4K3");
+        x.put(corners[right], piece);
+        int want = piece == 4 + 8 * side ? 0 : MateArbiter.RIGHTS;
+        Due.due(piece + " on " + corners[right] + ", right " + right, x.start(side, 1 << right, -1), want);
+    }
+
+    private static void kingsSquareHolds(int right, int piece) {
+        int[] corners = {7, 0, 63, 56};
+        int side = right / 2;
+        Arbiter x = Boards.empty();
+        x.put(side == 0 ? 20 : 44, 6 + 8 * side);
+        x.put(side == 0 ? 57 : 1, 14 - 8 * side);
+        x.put(corners[right], 4 + 8 * side);
+        x.put(side == 0 ? 4 : 60, piece);
+        String what = piece + " on the king's square, right " + right;
+        Due.due(what, x.start(side, 1 << right, -1), MateArbiter.RIGHTS);
+        Due.due(what + " is not asked for", x.start(side, 0, -1), 0);
     }
 
     private static void promise5StartPassant() {
@@ -237,39 +283,47 @@ public final class SettingUpTest {
         starts("4k3/8/8/4p3/8/8/8/4K3 w - d6", MateArbiter.PASSANT);
         starts("4k3/8/8/8/8/8/4p3/4K3 w - e3", MateArbiter.PASSANT);
         starts("4k3/4P3/8/8/8/8/8/4K3 b - e6", MateArbiter.PASSANT);
-        starts("4k3/8/8/7p/8/8/8/4K3 w - h6", 0);
-        starts("4k3/8/8/8/P7/8/8/4K3 b - a3", 0);
-        for (int passant = 0; passant < 64; passant++) {
-            MateArbiter x = Boards.pieces("4k3/8/8/4p3/8/8/8/4K3");
-            Due.due("start(0, 0, " + passant + ")", x.start(0, 0, passant), passant == 44 ? 0 : MateArbiter.PASSANT);
-            Due.due("passant()", x.passant(), passant == 44 ? 44 : -1);
+        for (int piece = 1; piece <= 13; piece++) {
+            if (piece != 6 && piece != 7 && piece != 8) {
+                passantAmong(0, piece);
+                passantAmong(1, piece);
+            }
         }
     }
 
-    private static void promise5Order() {
-        MateArbiter x = Boards.pieces("4k2P/8/8/8/8/8/4R3/K3K3");
-        Due.due("BAD before MEN", x.start(0, 16, 50), MateArbiter.BAD);
-        Due.due("MEN before PAWNS", x.start(0, 15, 50), MateArbiter.MEN);
-        x.put(0, 0);
-        Due.due("PAWNS before CHECK", x.start(0, 15, 50), MateArbiter.PAWNS);
-        x.put(63, 0);
-        Due.due("CHECK before RIGHTS", x.start(0, 15, 50), MateArbiter.CHECK);
-        x.put(12, 0);
-        Due.due("RIGHTS before PASSANT", x.start(0, 15, 50), MateArbiter.RIGHTS);
-        Due.due("PASSANT last", x.start(0, 0, 50), MateArbiter.PASSANT);
-        Due.due("all is well", x.start(0, 0, -1), 0);
+    // Pawns on file 3; from there no piece attacks the king that waits.
+    private static void passantAmong(int side, int piece) {
+        int passant = side == 0 ? 43 : 19;
+        int ahead = side == 0 ? 8 : -8;
+        int pawn = side == 0 ? 9 : 1;
+        int stepped = passant - ahead;
+        String what = "side " + side + ", " + piece;
+        startsAmong(what + " behind", side, passant, stepped, piece, piece == pawn ? 0 : MateArbiter.PASSANT);
+        startsAmong(what + " there", side, passant, passant, piece, MateArbiter.PASSANT);
+        startsAmong(what + " ahead", side, passant, passant + ahead, piece, MateArbiter.PASSANT);
+        startsAmong(what + " before the pawn", side, passant, stepped - ahead, piece, 0);
+        startsAmong(what + " beyond", side, passant, passant + 2 * ahead, piece, piece % 8 == 1 ? MateArbiter.PAWNS : 0);
+        startsAmong(what + " beside", side, passant, passant + 1, piece, 0);
+    }
+
+    private static void startsAmong(String what, int side, int passant, int square, int piece, int want) {
+        Arbiter x = Boards.empty();
+        x.put(side == 0 ? 8 : 48, 6 + 8 * side);
+        x.put(side == 0 ? 5 : 61, 14 - 8 * side);
+        x.put(passant - (side == 0 ? 8 : -8), side == 0 ? 9 : 1);
+        x.put(square, piece);
+        Due.due(what, x.start(side, 0, passant), want);
     }
 
     private static void promise8Piece() {
-        MateArbiter x = new MateArbiter();
-        int[] squares = {-1, 64, 128, Integer.MIN_VALUE, Integer.MAX_VALUE};
-        for (int square : squares) {
-            Due.due("piece(" + square + ")", x.piece(square), MateArbiter.BAD);
-        }
+        Arbiter x = new Arbiter();
+        Boards.playAll(x, "e2e4");
+        Due.due("left", x.piece(12), 0);
+        Due.due("arrived", x.piece(28), 1);
+        x.back();
+        Due.due("back", x.piece(12), 1);
+        Due.due("empty again", x.piece(28), 0);
         x.clear();
-        for (int square : squares) {
-            Due.due("setting up: piece(" + square + ")", x.piece(square), MateArbiter.BAD);
-        }
         x.put(0, 4);
         x.put(63, 14);
         Due.due("piece(0)", x.piece(0), 4);
