@@ -14,6 +14,7 @@ public final class CountTest {
         takingSetsTheClockBack();
         matedAtClock150();
         deadByMenLeft();
+        deadByBishopsOnEverySquare();
         deadNeedsBishopsOfBothSides();
         Due.finish();
     }
@@ -201,11 +202,7 @@ public final class CountTest {
         Arbiter x = Boards.game("6rk/6pp/8/6N1/R7/8/r7/7K b - -");
         String[] black = "b2 c2 d2 e2 a2".split(" ");
         String[] white = "b4 c4 d4 e4 f4 g4 a4".split(" ");
-        for (int i = 0; i < 149; i++) {
-            String[] stops = i % 2 == 0 ? black : white;
-            int at = i / 2 % stops.length;
-            Due.due("ply " + i, Boards.play(x, stops[(at + stops.length - 1) % stops.length] + stops[at]), 0);
-        }
+        Walks.rounds(x, black, white, 0, 149);
         Boards.playAll(x, "g5f7");
         Due.due("clock at mate", x.clock(), 150);
         stands("mate at 150", x, 2, 1);
@@ -247,6 +244,39 @@ public final class CountTest {
                 }
             }
         }
+    }
+
+    // Every pair of squares; the side that waits keeps its king where the bishop does not attack it.
+    private static void deadByBishopsOnEverySquare() {
+        for (int a = 0; a < 64; a++) {
+            for (int b = 0; b < 64; b++) {
+                if (a != b) {
+                    boolean even = (a % 8 + a / 8) % 2 == 0;
+                    boolean alsoEven = (b % 8 + b / 8) % 2 == 0;
+                    Due.due("bishops on " + a + ", " + b, withBishops(a, b).verdict(), even == alsoEven ? 3 : 0);
+                }
+            }
+        }
+    }
+
+    private static Arbiter withBishops(int a, int b) {
+        int[] whiteKings = {3, 4, 24};
+        int[] blackKings = {59, 60, 39, 40};
+        Arbiter x = Boards.empty();
+        for (int i = 0; i < 12 && x.side() < 0; i++) {
+            int white = whiteKings[i % 3];
+            int black = blackKings[i / 3];
+            if (white != a && white != b && black != a && black != b) {
+                x.clear();
+                x.put(a, 3);
+                x.put(b, 11);
+                x.put(white, 6);
+                x.put(black, 14);
+                x.start(0, 0, -1);
+            }
+        }
+        Due.due("a game with bishops on " + a + ", " + b, x.side(), 0);
+        return x;
     }
 
     private static void deadNeedsBishopsOfBothSides() {

@@ -16,6 +16,7 @@ public final class EdgeTest {
         pawnsFromTheSecondRank();
         pawnsToTheLastRank();
         checkOverTheEdge();
+        checkOnEverySquare();
         Due.finish();
     }
 
@@ -355,5 +356,38 @@ public final class EdgeTest {
         Due.due("aslant from corner to corner", Boards.game("b6k/8/8/8/8/8/8/7K w - -").check(), true);
         Due.due("along the first rank", Boards.game("k7/8/8/8/8/8/8/r6K w - -").check(), true);
         Due.due("along the last file", Boards.game("k6r/8/8/8/8/8/8/7K w - -").check(), true);
+    }
+
+    private static void checkOnEverySquare() {
+        for (int king = 0; king < 64; king++) {
+            for (int square = 0; square < 64; square++) {
+                for (int piece = 1; piece <= 5 && square != king; piece++) {
+                    boolean isOuterPawn = piece == 1 && (square < 8 || square > 55);
+                    if (!isOuterPawn) {
+                        attacksKing(king, square, piece, 0);
+                        attacksKing(king, square, piece + 8, 1);
+                    }
+                }
+            }
+        }
+    }
+
+    // The attacker's own king stands where it neither attacks the other nor is in the way.
+    private static void attacksKing(int king, int square, int piece, int side) {
+        int own = 0;
+        while (own == square || own == king || attacks(5, own, king)) {
+            own++;
+        }
+        Arbiter x = Boards.empty();
+        x.put(king, 14 - 8 * side);
+        x.put(own, 6 + 8 * side);
+        x.put(square, piece);
+        boolean isCheck = attacks(piece, square, king);
+        String what = piece + " on " + square + ", king on " + king;
+        if (isCheck) {
+            Due.due(what + ": start", x.start(side, 0, -1), MateArbiter.CHECK);
+        }
+        Due.due(what + ": start", x.start(1 - side, 0, -1), 0);
+        Due.due(what + ": check()", x.check(), isCheck);
     }
 }

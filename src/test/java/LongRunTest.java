@@ -8,6 +8,7 @@ public final class LongRunTest {
 
     public static void main(String[] args) {
         oneGameOfMovesAlone();
+        everyCallAMove();
         halfForwardHalfBack();
         fiveTimesLateInAGame();
         backAndForthAtOnePly();
@@ -54,6 +55,31 @@ public final class LongRunTest {
         for (int ply = first; ply < first + plies; ply++) {
             Due.due("ply " + ply + ", " + moveAt(ply), Boards.play(x, moveAt(ply)), 0);
         }
+    }
+
+    // Behind the pawns' steps the rooks go rounds of 9 and of 5 stops, so that nothing comes again soon.
+    private static final String[] WHITE_ROUND = "a2 b2 c2 d2 d3 c3 b3 a3 a1".split(" ");
+    private static final String[] BLACK_ROUND = "h7 g7 g6 h6 h8".split(" ");
+
+    private static void fullGame(Arbiter x, int plies) {
+        int stepped = 13 * STEPS.length;
+        play(x, 0, stepped);
+        Walks.rounds(x, WHITE_ROUND, BLACK_ROUND, 0, plies - stepped);
+    }
+
+    private static void everyCallAMove() {
+        Arbiter x = new Arbiter();
+        fullGame(x, CALLS);
+        spent("512 moves", x);
+        Arbiter y = new Arbiter();
+        fullGame(y, CALLS - 1);
+        Due.due("plies", y.plies(), CALLS - 1);
+        Arbiter z = new Arbiter();
+        fullGame(z, CALLS - 4);
+        Due.due("verdict", z.verdict(), 0);
+        Due.due("claims", z.claims(), 2);
+        Due.due("back", z.back(), true);
+        Due.due("clock", z.clock(), CALLS - 5 - 13 * STEPS.length);
     }
 
     private static void halfForwardHalfBack() {

@@ -318,6 +318,15 @@ public final class MovingTest {
         Due.due("rights after " + moves, x.rights(), want);
     }
 
+    private static void rightsTouched(int rights, String move, int lost) {
+        Arbiter x = Boards.pieces("r3k2r/8/8/8/8/8/8/R3K2R");
+        x.start(move.charAt(1) == '1' ? 0 : 1, rights, -1);
+        Boards.playAll(x, move);
+        Due.due("rights " + rights + " behind " + move, x.rights(), rights & ~lost);
+        x.back();
+        Due.due("rights " + rights + " again", x.rights(), rights);
+    }
+
     private static void promise10Rights() {
         String open = "r3k2r/8/8/8/8/8/8/R3K2R ";
         rightsAfter(open + "w KQkq -", "e1e2", 12);
@@ -334,6 +343,16 @@ public final class MovingTest {
         rightsAfter("r3k2r/8/8/3b4/8/8/8/R3K2R b KQkq -", "d5h1", 14);
         rightsAfter("r3k2r/1P6/8/8/8/8/8/R3K2R w KQkq -", "b7a8n", 7);
         rightsAfter(open + "w KQkq -", "h1h7 h8g8 h7h1 g8h8", 10);
+        for (int rights = 0; rights <= 15; rights++) {
+            rightsTouched(rights, "e1e2", 3);
+            rightsTouched(rights, "h1g1", 1);
+            rightsTouched(rights, "a1b1", 2);
+            rightsTouched(rights, "e8e7", 12);
+            rightsTouched(rights, "h8g8", 4);
+            rightsTouched(rights, "a8b8", 8);
+            rightsTouched(rights, "h1h8", 5);
+            rightsTouched(rights, "a8a1", 10);
+        }
         Arbiter x = new Arbiter();
         Boards.playAll(x, "e2e4 e7e5 e1e2 e8e7");
         Due.due("rights", x.rights(), 0);
@@ -375,6 +394,7 @@ public final class MovingTest {
 
     private static void promise12Moves() {
         movesOf("R6R/3Q4/1Q4Q1/4Q3/2Q4Q/Q4Q2/pp1Q4/kBNN1KB1 w - -", 218);
+        movesOf("1Q4Q1/4Q3/Q1Q4Q/Q4Q1Q/3Q4/KQ4Q1/pp2Q3/krQ4Q w - -", 240);
         movesOf("7k/8/8/8/8/8/8/K7 w - -", 3);
         movesOf("7k/8/8/3N4/8/8/8/K7 w - -", 11);
         movesOf("7k/8/8/3B4/8/8/8/K7 w - -", 16);

@@ -53,6 +53,8 @@ public final class SearchTest {
     private static void promise20NoMove() {
         values("R5k1/5ppp/8/8/8/8/8/4K3 b - -", -2, -1000, -1000);
         values("7k/5Q2/6K1/8/8/8/8/8 b - -", -9, 0, 0);
+        values("8/8/8/8/8/8/5b1p/5K1k w - -", -4, -1, 0);
+        values("8/4R3/k5qK/2Q5/8/8/8/8 w - -", 5, 14, 0);
     }
 
     private static void promise20VerdictsNotLookedAt() {

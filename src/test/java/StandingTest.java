@@ -1,4 +1,4 @@
-/** Promises 14 to 16: attackers, check, verdict; and, by claims, which positions are alike. */
+/** Promises 14 to 16: attackers, check, verdict. */
 public final class StandingTest {
     public static void main(String[] args) {
         promise14Attackers();
@@ -7,11 +7,6 @@ public final class StandingTest {
         promise16MateAndStalemate();
         promise16Dead();
         promise16Order();
-        alikeByRights();
-        alikeByPassant();
-        alikeByPassantThatNoPawnMayTake();
-        alikeByPassantThatAPawnMayTake();
-        alikeBySide();
         Due.finish();
     }
 
@@ -153,88 +148,5 @@ public final class StandingTest {
         stands("k7/2B5/1K6/8/8/8/8/8 b - -", 2);
         stands("k7/2N5/K7/8/8/8/8/8 b - -", 3);
         stands("k7/8/K1N5/8/8/8/8/8 b - -", 2);
-    }
-
-    private static void alikeByRights() {
-        Arbiter x = Boards.game("r3k2r/8/8/8/8/8/8/R3K2R w KQkq -");
-        for (int i = 0; i < 3; i++) {
-            Due.due("round " + i + ": claims", x.claims(), 0);
-            Boards.playAll(x, "h1g1 h8g8 g1h1 g8h8");
-        }
-        Due.due("three times with the rights left", x.claims(), 1);
-    }
-
-    private static void alikeByPassant() {
-        Arbiter x = Boards.game("4k1n1/3p4/8/4P3/8/8/8/4K1N1 b - -");
-        Boards.playAll(x, "d7d5");
-        for (int i = 0; i < 3; i++) {
-            Due.due("round " + i + ": claims", x.claims(), 0);
-            Boards.playAll(x, "g1f3 g8f6 f3g1 f6g8");
-        }
-        Due.due("three times without passant square", x.claims(), 1);
-        Arbiter first = Boards.game("4k1n1/8/8/3pP3/8/8/8/4K1N1 w - d6");
-        Walks.knightsDance(first, 2);
-        Due.due("passant square of the first position", first.claims(), 0);
-        Walks.knightsDance(first, 1);
-        Due.due("three times behind it", first.claims(), 1);
-    }
-
-    private static void alikeByPassantThatNoPawnMayTake() {
-        Arbiter none = Boards.game("4k1n1/3p4/8/8/8/8/8/4K1N1 b - -");
-        Boards.playAll(none, "d7d5");
-        Walks.knightsDance(none, 2);
-        Due.due("no pawn is near", none.claims(), 1);
-        Arbiter knight = Boards.game("4k1n1/3p4/8/8/2N5/8/8/4K1N1 b - -");
-        Boards.playAll(knight, "d7d5");
-        Due.due("a knight can go there", Boards.lists(knight, "c4d6"), true);
-        Walks.knightsDance(knight, 2);
-        Due.due("a knight does not count", knight.claims(), 1);
-        Arbiter pinned = Boards.game("4r1k1/3p4/8/4P3/8/8/8/4K1N1 b - -");
-        Boards.playAll(pinned, "d7d5");
-        Due.due("passant", pinned.passant(), 43);
-        Due.due("the pawn is pinned", Boards.lists(pinned, "e5d6"), false);
-        Boards.playAll(pinned, "g1f3 g8h8 f3g1 h8g8 g1f3 g8h8 f3g1 h8g8");
-        Due.due("a pinned pawn does not count", pinned.claims(), 1);
-        String first = "4r1k1/8/8/3pP3/8/8/8/4K1N1 w - d6";
-        comesAgain(first, "", "g1f3 g8h8 f3g1 h8g8", "pinned in the first position", 1);
-        String inLine = "6k1/3p4/8/K3P2r/8/8/8/8 b - -";
-        comesAgain(inLine, "d7d5", "a5a4 g8h8 a4a5 h8g8", "both pawns would leave the rank", 1);
-        String uncovered = "4b1k1/3p4/8/4P3/K7/8/8/8 b - -";
-        comesAgain(uncovered, "d7d5", "a4a3 e8f7 a3a4 f7e8", "taking would not end the check", 1);
-    }
-
-    private static void alikeByPassantThatAPawnMayTake() {
-        String aslant = "6k1/3p4/8/4P3/8/8/8/B3K3 b - -";
-        comesAgain(aslant, "d7d5", "e1d1 g8h8 d1e1 h8g8", "a pawn may take", 0);
-        String either = "6k1/3p4/8/2P1P3/8/8/8/4K3 b - -";
-        comesAgain(either, "d7d5", "e1d1 g8h8 d1e1 h8g8", "two pawns may take", 0);
-        String onePinned = "4r1k1/3p4/8/2P1P3/8/8/8/4K3 b - -";
-        comesAgain(onePinned, "d7d5", "e1d1 g8h8 d1e1 h8g8", "one of two is pinned", 0);
-        String black = "6k1/8/8/8/3p4/8/4P3/4K3 w - -";
-        comesAgain(black, "e2e4", "g8h8 e1d1 h8g8 d1e1", "black may take", 0);
-        comesAgain("6k1/8/8/8/3p4/8/5P2/4K3 w - -", "f2f4", "g8h8 e1d1 h8g8 d1e1", "black is too far away", 1);
-    }
-
-    // Two rounds: three times the position if the one with the passant square is alike, else twice.
-    private static void comesAgain(String fen, String step, String round, String what, int want) {
-        Arbiter x = Boards.game(fen);
-        if (!step.isEmpty()) {
-            Boards.playAll(x, step);
-        }
-        Due.due(what + ": there is a passant square", x.passant() >= 0, true);
-        Boards.playAll(x, round);
-        Due.due(what + ": twice at most", x.claims(), 0);
-        Boards.playAll(x, round);
-        Due.due(what, x.claims(), want);
-        Boards.playAll(x, round);
-        Due.due(what + ": three times at least", x.claims(), 1);
-    }
-
-    private static void alikeBySide() {
-        Arbiter x = Boards.game("4k3/8/8/8/8/8/R7/4K3 w - -");
-        Boards.playAll(x, "a2a3 e8d8 a3a1 d8e8 a1a2 e8d8 a2b2 d8d7 b2a2 d7e8");
-        Due.due("twice with white to move, once with black", x.claims(), 0);
-        Boards.playAll(x, "a2b2 e8d8 b2a2 d8e8");
-        Due.due("three times with white to move", x.claims(), 1);
     }
 }

@@ -11,14 +11,23 @@ final class Walks {
         return Boards.game("r7/7k/8/8/8/1P6/7K/R7 w - -");
     }
 
+    /** The n-th step (from 0) of a piece that goes round; it begins on the last stop. */
+    private static void step(Arbiter x, String[] stops, int n) {
+        String from = stops[(n + stops.length - 1) % stops.length];
+        String to = stops[n % stops.length];
+        Due.due("step " + n + " of a round, " + from + to, Boards.play(x, from + to), 0);
+    }
+
+    /** Two pieces go round in turn, the first one at even plies. */
+    static void rounds(Arbiter x, String[] first, String[] second, int firstPly, int plies) {
+        for (int ply = firstPly; ply < firstPly + plies; ply++) {
+            step(x, ply % 2 == 0 ? first : second, ply / 2);
+        }
+    }
+
     /** Rounds of 13 and of 6 stops: no position comes again within 156 plies. */
     static void walk(Arbiter x, int firstPly, int plies) {
-        for (int ply = firstPly; ply < firstPly + plies; ply++) {
-            String[] stops = ply % 2 == 0 ? WHITE_ROOK : BLACK_ROOK;
-            int at = ply / 2 % stops.length;
-            String from = stops[(at + stops.length - 1) % stops.length];
-            Due.due("ply " + ply + " of the walk", Boards.play(x, from + stops[at]), 0);
-        }
+        rounds(x, WHITE_ROOK, BLACK_ROOK, firstPly, plies);
     }
 
     static Arbiter walked(int plies) {
