@@ -197,10 +197,10 @@ public final class EdgeTest {
                 over(left + "Q7/8/8/4K3 w - -", 5, 24, far * steps[i]);
             }
         }
-        refuses("k7/p7/8/8/8/8/4K3/N7 w - -", 0, 64 - 17, 0);
+        refuses("k7/p7/8/8/8/8/4K3/N7 w - -", 0, 47, 0);
         refuses("k6N/p7/8/8/8/8/4K3/8 w - -", 63, 17, 0);
         refuses("k7/p7/8/8/8/8/8/4K2R w - -", 7, 8, 0);
-        refuses("k7/p7/8/8/8/8/4K3/7R w - -", 7, 63 - 64, 0);
+        refuses("k7/p7/8/8/8/8/4K3/7R w - -", 7, -1, 0);
         refuses("4k3/p7/8/8/8/8/8/3QK3 w - -", 3, -5, 0);
         refuses("3Q4/p7/4k3/8/8/8/8/4K3 w - -", 59, 67, 0);
     }
