@@ -11,6 +11,8 @@ public final class AlikeTest {
         byPassant();
         byPassantThatNoPawnMayTake();
         byPassantThatAPawnMayTake();
+        notByMovesOfAnEarlierGame();
+        notByHowLongAgo();
         Due.finish();
     }
 
@@ -151,23 +153,29 @@ public final class AlikeTest {
     }
 
     private static void byPassantThatNoPawnMayTake() {
-        Arbiter none = Boards.game("4k1n1/3p4/8/8/8/8/8/4K1N1 b - -");
-        Boards.playAll(none, "d7d5");
-        Walks.knightsDance(none, 2);
-        Due.due("no pawn is near", none.claims(), 1);
-        Arbiter knight = Boards.game("4k1n1/3p4/8/8/2N5/8/8/4K1N1 b - -");
-        Boards.playAll(knight, "d7d5");
-        Due.due("a knight can go there", Boards.lists(knight, "c4d6"), true);
-        Walks.knightsDance(knight, 2);
-        Due.due("a knight does not count", knight.claims(), 1);
-        Arbiter pinned = Boards.game("4r1k1/3p4/8/4P3/8/8/8/4K1N1 b - -");
-        Boards.playAll(pinned, "d7d5");
-        Due.due("passant", pinned.passant(), 43);
-        Due.due("the pawn is pinned", Boards.lists(pinned, "e5d6"), false);
-        Boards.playAll(pinned, "g1f3 g8h8 f3g1 h8g8 g1f3 g8h8 f3g1 h8g8");
-        Due.due("a pinned pawn does not count", pinned.claims(), 1);
-        String first = "4r1k1/8/8/3pP3/8/8/8/4K1N1 w - d6";
-        comesAgain(first, "", "g1f3 g8h8 f3g1 h8g8", "pinned in the first position", 1);
+        String knights = "g1f3 g8f6 f3g1 f6g8";
+        comesAgain("4k1n1/3p4/8/8/8/8/8/4K1N1 b - -", "d7d5", knights, "no pawn is near", 1);
+        comesAgain("4k1n1/8/8/3p4/8/8/8/4K1N1 w - d6", "", knights, "no pawn is near at first", 1);
+        String[] squares = {"c4", "f4", "a6", "h6"};
+        String[] ranks = {"8/8/2N5", "8/8/5B2", "R7/8/8", "7Q/8/8"};
+        for (int i = 0; i < ranks.length; i++) {
+            String fen = "4k1n1/3p4/" + ranks[i] + "/8/8/4K1N1 b - -";
+            Arbiter x = Boards.game(fen);
+            Boards.playAll(x, "d7d5");
+            Due.due("a piece can go there", Boards.lists(x, squares[i] + "d6"), true);
+            comesAgain(fen, "d7d5", knights, "only a piece can go there", 1);
+        }
+        comesAgain("6n1/7k/2K5/3p4/8/8/8/6N1 w - d6", "", knights, "only the king can go there", 1);
+        String pinned = "4r1k1/3p4/8/4P3/8/8/8/4K1N1 b - -";
+        Arbiter x = Boards.game(pinned);
+        Boards.playAll(x, "d7d5");
+        Due.due("passant", x.passant(), 43);
+        Due.due("the pawn is pinned", Boards.lists(x, "e5d6"), false);
+        String round = "g1f3 g8h8 f3g1 h8g8";
+        comesAgain(pinned, "d7d5", round, "a pinned pawn does not count", 1);
+        comesAgain("4r1k1/8/8/3pP3/8/8/8/4K1N1 w - d6", "", round, "pinned in the first position", 1);
+        String both = "b3r1k1/3p4/8/2P1P3/8/8/8/4K1N1 b - -";
+        comesAgain(both, "d7d5", round, "one pinned, the other free", 0);
         String inLine = "6k1/3p4/8/K3P2r/8/8/8/8 b - -";
         comesAgain(inLine, "d7d5", "a5a4 g8h8 a4a5 h8g8", "both pawns would leave the rank", 1);
         String uncovered = "4b1k1/3p4/8/4P3/K7/8/8/8 b - -";
@@ -188,8 +196,15 @@ public final class AlikeTest {
         comesAgain("6k1/8/8/8/3p4/8/5P2/4K3 w - -", "f2f4", "g8h8 e1d1 h8g8 d1e1", "black is too far away", 1);
     }
 
-    // Two rounds: three times the position if the one with the passant square is alike, else twice.
     private static void comesAgain(String fen, String step, String round, String what, int want) {
+        for (int way = 0; way < Mirror.ways(fen); way++) {
+            String other = Mirror.fen(fen, way);
+            comesAgainSo(other, Mirror.moves(step, way), Mirror.moves(round, way), what + " (" + other + ")", want);
+        }
+    }
+
+    // Two rounds: three times the position if the one with the passant square is alike, else twice.
+    private static void comesAgainSo(String fen, String step, String round, String what, int want) {
         Arbiter x = Boards.game(fen);
         if (!step.isEmpty()) {
             Boards.playAll(x, step);
@@ -201,6 +216,32 @@ public final class AlikeTest {
         Due.due(what, x.claims(), want);
         Boards.playAll(x, round);
         Due.due(what + ": three times at least", x.claims(), 1);
+    }
+
+    // In the first game e5d6 is the tenth legal move; in the second, with nine, it is none.
+    private static void notByMovesOfAnEarlierGame() {
+        Arbiter x = Boards.game("6k1/8/3n4/4P3/8/P7/8/4K1N1 w - -");
+        Due.due("the tenth move", x.legal(9), 36 + 64 * 43);
+        x.clear();
+        String second = "4r1k1/8/8/3pP3/8/8/8/4K1N1 w - d6";
+        Boards.fill(x, second);
+        Due.due("start of " + second, Boards.start(x, second), 0);
+        Due.due("nine moves", x.moves(), 9);
+        Boards.playAll(x, "g1f3 g8h8 f3g1 h8g8 g1f3 g8h8 f3g1 h8g8");
+        Due.due("a pawn that could take in an earlier game", x.claims(), 1);
+    }
+
+    // Rounds of 7 and of 5 stops: the first position comes again behind 70 plies and behind 140.
+    private static void notByHowLongAgo() {
+        Arbiter x = Walks.rooks();
+        String[] white = "b1 c1 d1 d2 c2 a2 a1".split(" ");
+        String[] black = "b8 c8 d8 e8 a8".split(" ");
+        Walks.rounds(x, white, black, 0, 139);
+        Due.due("139 plies: twice", x.claims(), 2);
+        Walks.rounds(x, white, black, 139, 1);
+        Due.due("140 plies: three times", x.claims(), 3);
+        Walks.rounds(x, white, black, 140, 1);
+        Due.due("141 plies: three times", x.claims(), 3);
     }
 
     private static void bySide() {

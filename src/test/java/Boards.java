@@ -59,6 +59,16 @@ final class Boards {
         return x;
     }
 
+    /** A new object with a game that begins with the position in which the other one stands. */
+    static Arbiter twin(Arbiter x) {
+        Arbiter y = empty();
+        for (int square = 0; square < 64; square++) {
+            y.put(square, x.piece(square));
+        }
+        Due.due("start of a twin", y.start(x.side(), x.rights(), x.passant()), 0);
+        return y;
+    }
+
     /** Makes a move such as e2e4 or e7e8q. */
     static int play(Arbiter x, String move) {
         int promotion = move.length() < 5 ? 0 : " .nbrq".indexOf(move.charAt(4));

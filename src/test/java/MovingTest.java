@@ -5,6 +5,7 @@ public final class MovingTest {
         promise6Pawns();
         promise6Promotion();
         promise6Passant();
+        promise6PassantIsForPawns();
         promise6Castling();
         promise6CastlingRefused();
         promise6Pins();
@@ -17,11 +18,18 @@ public final class MovingTest {
         promise12Moves();
         promise13Legal();
         promise18Clock();
+        promise18EveryTaking();
         promise19Plies();
         Due.finish();
     }
 
     private static void plays(String fen, String move, int want) {
+        for (int way = 0; way < Mirror.ways(fen); way++) {
+            playsSo(Mirror.fen(fen, way), Mirror.moves(move, way), want);
+        }
+    }
+
+    private static void playsSo(String fen, String move, int want) {
         Arbiter x = Boards.game(fen);
         String before = Boards.state(x);
         Due.due(fen + " lists " + move, Boards.lists(x, move), want == 0);
@@ -138,6 +146,39 @@ public final class MovingTest {
         plays("4k3/8/3K4/2pPp3/8/8/8/8 w - e6", "d6e6", 0);
         plays("8/8/8/2k5/3Pp3/8/8/4K3 b - d3", "e4d3", 0);
         plays("8/8/8/8/k2Pp2R/8/8/4K3 b - d3", "e4d3", -1);
+    }
+
+    private static void promise6PassantIsForPawns() {
+        entersPassant("4k3/8/8/3p4/8/8/8/6K1", "e4", 2);
+        entersPassant("4k3/8/8/3p4/8/8/8/6K1", "b4", 3);
+        entersPassant("4k3/8/8/3p4/8/8/8/6K1", "a6", 4);
+        entersPassant("4k3/8/8/3p4/8/8/8/6K1", "h6", 5);
+        entersPassant("7k/8/8/3p4/8/8/8/8", "c6", 6);
+        entersPassant("6k1/8/8/8/3P4/8/8/4K3", "e5", 10);
+        entersPassant("6k1/8/8/8/3P4/8/8/4K3", "b5", 11);
+        entersPassant("6k1/8/8/8/3P4/8/8/4K3", "a3", 12);
+        entersPassant("6k1/8/8/8/3P4/8/8/4K3", "h3", 13);
+        entersPassant("8/8/8/8/3P4/8/8/7K", "c3", 14);
+    }
+
+    // A piece that is no pawn goes to d6 (white) or d3 (black), and takes nothing.
+    private static void entersPassant(String fen, String from, int piece) {
+        int side = piece / 8;
+        int passant = side == 0 ? 43 : 19;
+        int pawn = side == 0 ? 35 : 27;
+        Arbiter x = Boards.pieces(fen);
+        x.put(Boards.square(from), piece);
+        String what = piece + " goes from " + from + " to the passant square";
+        Due.due(what + ": start", x.start(side, 0, passant), 0);
+        Due.due(what, x.move(Boards.square(from), passant, 0), 0);
+        Due.due(what + ": it arrives", x.piece(passant), piece);
+        Due.due(what + ": the pawn stays", x.piece(pawn), 9 - 8 * side);
+        Due.due(what + ": clock()", x.clock(), 1);
+        Due.due(what + ": passant()", x.passant(), -1);
+        Due.due(what + ": back()", x.back(), true);
+        Due.due(what + ": the pawn is there again", x.piece(pawn), 9 - 8 * side);
+        Due.due(what + ": the square is empty again", x.piece(passant), 0);
+        Due.due(what + ": passant() again", x.passant(), passant);
     }
 
     private static void promise6Castling() {
@@ -313,9 +354,11 @@ public final class MovingTest {
     }
 
     private static void rightsAfter(String fen, String moves, int want) {
-        Arbiter x = Boards.game(fen);
-        Boards.playAll(x, moves);
-        Due.due("rights after " + moves, x.rights(), want);
+        for (int way = 0; way < Mirror.ways(fen); way++) {
+            Arbiter x = Boards.game(Mirror.fen(fen, way));
+            Boards.playAll(x, Mirror.moves(moves, way));
+            Due.due("rights after " + Mirror.moves(moves, way), x.rights(), Mirror.rights(want, way));
+        }
     }
 
     private static void rightsTouched(int rights, String move, int lost) {
@@ -389,7 +432,9 @@ public final class MovingTest {
     }
 
     private static void movesOf(String fen, int want) {
-        Due.due("moves of " + fen, Boards.game(fen).moves(), want);
+        for (int way = 0; way < Mirror.ways(fen); way++) {
+            Due.due("way " + way + ": moves of " + fen, Boards.game(Mirror.fen(fen, way)).moves(), want);
+        }
     }
 
     private static void promise12Moves() {
@@ -464,6 +509,64 @@ public final class MovingTest {
         Boards.playAll(y, "h6h7");
         y.clear();
         Due.due("clock while setting up", y.clock(), 0);
+    }
+
+    // Said for white on d5; for black all ranks and sides are exchanged.
+    private static void promise18EveryTaking() {
+        int[] from = {26, 20, 17, 3, 3};
+        for (int side = 0; side < 2; side++) {
+            for (int kind = 1; kind <= 5; kind++) {
+                for (int taken = 1; taken <= 5; taken++) {
+                    takes(side, from[kind - 1], kind, taken);
+                }
+            }
+            kingTakes(side, 29, 2);
+            kingTakes(side, 62, 3);
+            kingTakes(side, 3, 4);
+            kingTakes(side, 3, 5);
+        }
+        Arbiter x = Boards.game("7k/8/1K6/3p4/8/8/P7/8 w - -");
+        Boards.playAll(x, "b6c6 h8h7");
+        Due.due("both kings stepped", x.clock(), 2);
+        Boards.playAll(x, "c6d5");
+        Due.due("a king took a pawn", x.clock(), 0);
+    }
+
+    private static int turned(int side, int square) {
+        return side == 0 ? square : square ^ 56;
+    }
+
+    // The pawn on a2 keeps the position from being dead.
+    private static Arbiter kings(int side, int own, int other) {
+        Arbiter x = Boards.empty();
+        x.put(turned(side, 8), 1 + 8 * side);
+        x.put(turned(side, own), 6 + 8 * side);
+        x.put(turned(side, other), 14 - 8 * side);
+        return x;
+    }
+
+    private static void takes(int side, int from, int kind, int taken) {
+        Arbiter x = kings(side, 5, 63);
+        x.put(turned(side, from), kind + 8 * side);
+        x.put(turned(side, 35), taken + 8 - 8 * side);
+        String what = "side " + side + ", " + kind + " takes " + taken;
+        Due.due(what + ": start", x.start(side, 0, -1), 0);
+        Due.due(what + ": own king", x.move(turned(side, 5), turned(side, 6), 0), 0);
+        Due.due(what + ": other king", x.move(turned(side, 63), turned(side, 55), 0), 0);
+        Due.due(what + ": clock() before", x.clock(), 2);
+        Due.due(what, x.move(turned(side, from), turned(side, 35), 0), 0);
+        Due.due(what + ": clock()", x.clock(), 0);
+    }
+
+    private static void kingTakes(int side, int from, int taken) {
+        Arbiter x = kings(side, 42, 63);
+        x.put(turned(side, from), taken + 8 - 8 * side);
+        String what = "side " + side + ", the king takes " + taken;
+        Due.due(what + ": start", x.start(1 - side, 0, -1), 0);
+        Due.due(what + ": it comes", x.move(turned(side, from), turned(side, 35), 0), 0);
+        Due.due(what + ": clock() before", x.clock(), 1);
+        Due.due(what, x.move(turned(side, 42), turned(side, 35), 0), 0);
+        Due.due(what + ": clock()", x.clock(), 0);
     }
 
     private static void promise19Plies() {

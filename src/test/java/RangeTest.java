@@ -141,6 +141,10 @@ public final class RangeTest {
             Due.due(fen + " promotes to " + promotion, x.move(from, ahead, promotion), BAD);
             Due.due(fen + " takes and promotes to " + promotion, x.move(from, aslant, promotion), BAD);
         }
+        // Black's promotions are not said by the numbers of black's pieces.
+        for (int promotion = 6; promotion <= 14; promotion++) {
+            Due.due(fen + " promotes to " + promotion, x.move(from, ahead, promotion), BAD);
+        }
         Due.due("plies()", x.plies(), 0);
         int side = x.side();
         for (int promotion = 2; promotion <= 5; promotion++) {

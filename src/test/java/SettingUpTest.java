@@ -140,6 +140,12 @@ public final class SettingUpTest {
     }
 
     private static void starts(String fen, int want) {
+        for (int way = 0; way < Mirror.ways(fen); way++) {
+            startsSo(Mirror.fen(fen, way), want);
+        }
+    }
+
+    private static void startsSo(String fen, int want) {
         Arbiter x = Boards.pieces(fen);
         Due.due("start of " + fen, Boards.start(x, fen), want);
         if (want != 0) {
@@ -237,6 +243,7 @@ public final class SettingUpTest {
         starts("4k2R/8/8/8/8/8/8/4K3 b k -", MateArbiter.RIGHTS);
         starts("r3k2r/8/8/8/8/8/8/2K5 w kq -", 0);
         for (int right = 0; right < 4; right++) {
+            otherKingHolds(right);
             for (int piece = 0; piece <= 13; piece++) {
                 if (piece != 7 && piece != 8 && piece % 8 != 1 && piece % 8 != 6) {
                     cornerHolds(right, piece);
@@ -266,6 +273,19 @@ public final class SettingUpTest {
         String what = piece + " on the king's square, right " + right;
         Due.due(what, x.start(side, 1 << right, -1), MateArbiter.RIGHTS);
         Due.due(what + " is not asked for", x.start(side, 0, -1), 0);
+    }
+
+    // The side whose king stands on the other's square is to move: it may be in check.
+    private static void otherKingHolds(int right) {
+        int[] corners = {7, 0, 63, 56};
+        int side = right / 2;
+        Arbiter x = Boards.empty();
+        x.put(side == 0 ? 4 : 60, 14 - 8 * side);
+        x.put(side == 0 ? 36 : 28, 6 + 8 * side);
+        x.put(corners[right], 4 + 8 * side);
+        String what = "the other king on the king's square, right " + right;
+        Due.due(what, x.start(1 - side, 1 << right, -1), MateArbiter.RIGHTS);
+        Due.due(what + " is not asked for", x.start(1 - side, 0, -1), 0);
     }
 
     private static void promise5StartPassant() {

@@ -74,7 +74,9 @@ public final class StandingTest {
     }
 
     private static void checks(String fen, boolean want) {
-        Due.due("check of " + fen, Boards.game(fen).check(), want);
+        for (int way = 0; way < Mirror.ways(fen); way++) {
+            Due.due("way " + way + ": check of " + fen, Boards.game(Mirror.fen(fen, way)).check(), want);
+        }
     }
 
     private static void promise15Check() {
@@ -101,7 +103,9 @@ public final class StandingTest {
     }
 
     private static void stands(String fen, int want) {
-        Due.due("verdict of " + fen, Boards.game(fen).verdict(), want);
+        for (int way = 0; way < Mirror.ways(fen); way++) {
+            Due.due("way " + way + ": verdict of " + fen, Boards.game(Mirror.fen(fen, way)).verdict(), want);
+        }
     }
 
     private static void promise16MateAndStalemate() {
