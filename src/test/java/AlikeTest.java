@@ -11,6 +11,7 @@ public final class AlikeTest {
         byPassant();
         byPassantThatNoPawnMayTake();
         byPassantThatAPawnMayTake();
+        byPassantOnEveryFile();
         notByMovesOfAnEarlierGame();
         notByHowLongAgo();
         Due.finish();
@@ -216,6 +217,24 @@ public final class AlikeTest {
         Due.due(what, x.claims(), want);
         Boards.playAll(x, round);
         Due.due(what + ": three times at least", x.claims(), 1);
+    }
+
+    private static void byPassantOnEveryFile() {
+        for (char file = 'a'; file <= 'h'; file++) {
+            String step = file + "7" + file + "5";
+            for (char taker = 'a'; taker <= 'h'; taker++) {
+                String fen = "6k1/" + rankWith(file, 'p') + "/8/" + rankWith(taker, 'P') + "/8/8/8/4K3 b - -";
+                boolean isNext = Math.abs(file - taker) == 1;
+                if (file != taker) {
+                    comesAgain(fen, step, "e1d1 g8h8 d1e1 h8g8", "pawns on " + file + " and " + taker, isNext ? 0 : 1);
+                }
+            }
+        }
+    }
+
+    private static String rankWith(char file, char piece) {
+        int before = file - 'a';
+        return (before == 0 ? "" : "" + before) + piece + (before == 7 ? "" : "" + (7 - before));
     }
 
     // In the first game e5d6 is the tenth legal move; in the second, with nine, it is none.

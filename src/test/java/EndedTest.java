@@ -2,9 +2,9 @@
 public final class EndedTest {
     public static void main(String[] args) {
         mate();
-        mateByTwoRanks();
+        byTwoRanks("mate by a pawn", "8/8/2Q5/k7/8/2K5/1P6/8 w - -", "8/8/2Q5/k7/2p5/2K5/1P6/8 w - -", 1);
         stalemate();
-        stalemateByTwoRanks();
+        byTwoRanks("stalemate by a pawn", "1R6/8/k7/8/8/8/1P6/6BK w - -", "1R6/8/k7/8/2p5/2P5/1P6/6BK w - -", 2);
         stalemateAtClock150();
         dead();
         deadInCheck();
@@ -31,6 +31,26 @@ public final class EndedTest {
         Due.due(when + ": search(0)", x.search(0), zero);
         Due.due(when + ": search(1)", x.search(1), one);
         Due.due(when + ": search(2)", x.search(2), two);
+    }
+
+    private static void hasNoMove(String when, Arbiter x, boolean check) {
+        Due.due(when + ": check()", x.check(), check);
+        Due.due(when + ": moves()", x.moves(), 0);
+        Due.due(when + ": legal(0)", x.legal(0), MateArbiter.BAD);
+    }
+
+    /** By white's pawn that goes from b2 to b4; with a pawn of black on c4 there is one move left. */
+    private static void byTwoRanks(String when, String fen, String withPawn, int verdict) {
+        Arbiter x = Boards.game(fen);
+        Boards.playAll(x, "b2b4");
+        stands(when, x, 1, 0, 17);
+        hasNoMove(when, x, verdict == 1);
+        isOver(when, x, verdict);
+        Arbiter y = Boards.game(withPawn);
+        Boards.playAll(y, "b2b4");
+        Due.due(when + " but for a pawn: verdict()", y.verdict(), 0);
+        Due.due(when + " but for a pawn: moves()", y.moves(), 1);
+        Due.due(when + " but for a pawn: legal(0)", y.legal(0), 26 + 64 * 17);
     }
 
     /** The game is over, but on until clear(), and goes on behind back(). */
@@ -72,25 +92,11 @@ public final class EndedTest {
         stands("mate", x, 0, 15, -1);
         counts("mate", x, 4, 1, 0);
         values("mate", x, 0, -1000, -1000);
-        Due.due("mate: check()", x.check(), true);
-        Due.due("mate: moves()", x.moves(), 0);
-        Due.due("mate: legal(0)", x.legal(0), MateArbiter.BAD);
+        hasNoMove("mate", x, true);
         Due.due("mate: piece(31)", x.piece(31), 13);
         Due.due("mate: attackers(4, 1)", x.attackers(4, 1), 1);
         Due.due("mate: attackers(4, 0)", x.attackers(4, 0), 1);
         isOver("mate", x, 1);
-    }
-
-    private static void mateByTwoRanks() {
-        Arbiter x = Boards.game("8/8/2Q5/k7/8/2K5/1P6/8 w - -");
-        Boards.playAll(x, "b2b4");
-        stands("mate by a pawn", x, 1, 0, 17);
-        isOver("mate by a pawn", x, 1);
-        Arbiter y = Boards.game("8/8/2Q5/k7/2p5/2K5/1P6/8 w - -");
-        Boards.playAll(y, "b2b4");
-        Due.due("a pawn can take in passing: verdict()", y.verdict(), 0);
-        Due.due("a pawn can take in passing: moves()", y.moves(), 1);
-        Due.due("a pawn can take in passing: legal(0)", y.legal(0), 26 + 64 * 17);
     }
 
     private static void stalemate() {
@@ -99,25 +105,11 @@ public final class EndedTest {
         stands("stalemate", x, 1, 0, -1);
         counts("stalemate", x, 1, 1, 0);
         values("stalemate", x, -9, 0, 0);
-        Due.due("stalemate: check()", x.check(), false);
-        Due.due("stalemate: moves()", x.moves(), 0);
-        Due.due("stalemate: legal(0)", x.legal(0), MateArbiter.BAD);
+        hasNoMove("stalemate", x, false);
         Due.due("stalemate: piece(53)", x.piece(53), 5);
         Due.due("stalemate: attackers(62, 0)", x.attackers(62, 0), 1);
         Due.due("stalemate: attackers(62, 1)", x.attackers(62, 1), 1);
         isOver("stalemate", x, 2);
-    }
-
-    private static void stalemateByTwoRanks() {
-        Arbiter x = Boards.game("1R6/8/k7/8/8/8/1P6/6BK w - -");
-        Boards.playAll(x, "b2b4");
-        stands("stalemate by a pawn", x, 1, 0, 17);
-        isOver("stalemate by a pawn", x, 2);
-        Arbiter y = Boards.game("1R6/8/k7/8/2p5/2P5/1P6/6BK w - -");
-        Boards.playAll(y, "b2b4");
-        Due.due("a pawn can take in passing: verdict()", y.verdict(), 0);
-        Due.due("a pawn can take in passing: moves()", y.moves(), 1);
-        Due.due("a pawn can take in passing: legal(0)", y.legal(0), 26 + 64 * 17);
     }
 
     private static void stalemateAtClock150() {

@@ -3,11 +3,13 @@ public final class MovingTest {
     public static void main(String[] args) {
         promise6Pieces();
         promise6Pawns();
+        promise6PawnsBeforePieces();
         promise6Promotion();
         promise6Passant();
         promise6PassantIsForPawns();
         promise6Castling();
         promise6CastlingRefused();
+        promise6CastlingOverPieces();
         promise6Pins();
         promise6Refuses();
         promise7Back();
@@ -96,6 +98,30 @@ public final class MovingTest {
         plays("k7/8/8/n7/7P/8/8/K7 w - -", "h4a5", -1);
         plays("k7/8/8/8/n7/7P/8/K7 w - -", "h3a4", -1);
         plays("k7/8/8/1N5n/P7/8/8/K7 w - -", "a4b5", -1);
+    }
+
+    private static void promise6PawnsBeforePieces() {
+        for (int kind = 1; kind <= 5; kind++) {
+            for (int other = 0; other <= 8; other += 8) {
+                stepsBefore(0, 12, 8, kind + other);
+                stepsBefore(1, 52, -8, kind + other);
+            }
+        }
+    }
+
+    // A pawn with a piece one and two ranks ahead; the kings stand where none of it reaches them.
+    private static void stepsBefore(int side, int from, int ahead, int piece) {
+        for (int far = 1; far <= 2; far++) {
+            Arbiter x = Boards.empty();
+            x.put(turned(side, 0), 6 + 8 * side);
+            x.put(turned(side, 63), 14 - 8 * side);
+            x.put(from, 1 + 8 * side);
+            x.put(from + far * ahead, piece);
+            String what = "side " + side + ", " + piece + " stands " + far + " ahead";
+            Due.due(what + ": start", x.start(side, 0, -1), 0);
+            Due.due(what + ": two ranks", x.move(from, from + 2 * ahead, 0), -1);
+            Due.due(what + ": one rank", x.move(from, from + ahead, 0), far == 1 ? -1 : 0);
+        }
     }
 
     private static void promise6Promotion() {
@@ -236,6 +262,46 @@ public final class MovingTest {
         Due.due("the right is gone for good", Boards.play(x, "e1g1"), -1);
         Due.due("the other is there", Boards.play(x, "e1c1"), 0);
         plays("4k3/8/8/8/8/8/8/3K3R w - -", "d1f1", -1);
+    }
+
+    // Every piece of both sides on every square between king and rook.
+    private static void promise6CastlingOverPieces() {
+        int[] shortSquares = {5, 6};
+        int[] longSquares = {3, 2, 1};
+        for (int side = 0; side < 2; side++) {
+            for (int kind = 2; kind <= 5; kind++) {
+                for (int other = 0; other <= 8; other += 8) {
+                    for (int square : shortSquares) {
+                        castlesOver(side, turned(side, square), kind + other, 2);
+                    }
+                    for (int square : longSquares) {
+                        castlesOver(side, turned(side, square), kind + other, -2);
+                    }
+                }
+            }
+        }
+    }
+
+    private static void castlesOver(int side, int square, int piece, int step) {
+        Arbiter x = Boards.empty();
+        int king = turned(side, 4);
+        x.put(king, 6 + 8 * side);
+        x.put(turned(side, 0), 4 + 8 * side);
+        x.put(turned(side, 7), 4 + 8 * side);
+        x.put(square, piece);
+        // The other king goes where it is not in check.
+        int far = 48;
+        while (far < 56 && x.side() < 0) {
+            x.put(turned(side, far), 14 - 8 * side);
+            if (x.start(side, 3 << 2 * side, -1) != 0) {
+                x.put(turned(side, far), 0);
+                far++;
+            }
+        }
+        String what = "side " + side + ", " + piece + " on " + square;
+        Due.due(what + ": a game", x.side(), side);
+        Due.due(what + ": castling", x.move(king, king + step, 0), -1);
+        Due.due(what + ": the other castling", x.move(king, king - step, 0), x.check() ? -1 : 0);
     }
 
     private static void promise6Pins() {
@@ -386,6 +452,16 @@ public final class MovingTest {
         rightsAfter("r3k2r/8/8/3b4/8/8/8/R3K2R b KQkq -", "d5h1", 14);
         rightsAfter("r3k2r/1P6/8/8/8/8/8/R3K2R w KQkq -", "b7a8n", 7);
         rightsAfter(open + "w KQkq -", "h1h7 h8g8 h7h1 g8h8", 10);
+        rightsAfter("r3k2r/8/6N1/8/8/8/8/R3K2R w KQkq -", "g6h8", 11);
+        rightsAfter("r3k2r/2N5/8/8/8/8/8/R3K2R b KQkq -", "e8d8", 3);
+        rightsAfter("r3k2r/8/1N6/8/8/8/8/R3K2R w KQkq -", "b6a8", 7);
+        rightsAfter("r3k2r/8/8/8/3B4/8/8/R3K2R w KQkq -", "d4h8", 11);
+        rightsAfter("r3k2r/8/8/8/4B3/8/8/R3K2R w KQkq -", "e4a8", 7);
+        rightsAfter("r3k2r/8/8/8/3Q4/8/8/R3K2R w KQkq -", "d4h8", 11);
+        rightsAfter("r3k2r/8/8/3Q4/8/8/8/R3K2R w KQkq -", "d5a8", 7);
+        rightsAfter("r3k2r/6P1/8/8/8/8/8/R3K2R w KQkq -", "g7h8q", 11);
+        rightsAfter("r3k2r/6K1/8/8/8/8/8/8 w kq -", "g7h8", 8);
+        rightsAfter("r3k2r/1K6/8/8/8/8/8/8 w kq -", "b7a8", 4);
         for (int rights = 0; rights <= 15; rights++) {
             rightsTouched(rights, "e1e2", 3);
             rightsTouched(rights, "h1g1", 1);

@@ -309,6 +309,22 @@ public final class SettingUpTest {
                 passantAmong(1, piece);
             }
         }
+        for (int king = 6; king <= 14; king += 8) {
+            passantAtKing(0, 43, 35, king);
+            passantAtKing(1, 19, 27, king);
+        }
+    }
+
+    // One king stands on the passant square or ahead of it, the other one far away.
+    private static void passantAtKing(int side, int passant, int pawn, int king) {
+        for (int far = 0; far <= 2; far++) {
+            Arbiter x = Boards.empty();
+            x.put(passant + far * (passant - pawn), king);
+            x.put(far == 2 ? 32 : 39, 20 - king);
+            x.put(pawn, 9 - 8 * side);
+            int want = far < 2 ? MateArbiter.PASSANT : 0;
+            Due.due("king " + king + ", " + far + " squares ahead", x.start(side, 0, passant), want);
+        }
     }
 
     // Pawns on file 3; from there no piece attacks the king that waits.
