@@ -3,6 +3,7 @@ public final class AlikeTest {
     public static void main(String[] args) {
         byEveryPairOfSquares();
         byKindOfPiece();
+        byKindOfPieceBesideOthers();
         notByWhichOfTwoPieces();
         byColour();
         bySide();
@@ -92,6 +93,22 @@ public final class AlikeTest {
         exchange("RQ", 0);
         exchange("QK", 0);
         exchange("RK", 0);
+    }
+
+    // Queen and rook exchange their squares, and a knight of black stands beside either of them.
+    private static void byKindOfPieceBesideOthers() {
+        String fen = "6k1/8/8/8/8/8/8/KQn2Rn1 w - -";
+        String there = "b1b5 g8h8 f1f4 h8g8 f4b4 g8h8 b4b1 h8g8 b5f5 g8h8 f5f1 h8g8";
+        String back = "f1f5 g8h8 f5b5 h8g8 b1b4 g8h8 b4f4 h8g8 f4f1 g8h8 b5b1 h8g8";
+        for (int way = 0; way < Mirror.ways(fen); way++) {
+            Arbiter x = Boards.game(Mirror.fen(fen, way));
+            Boards.playAll(x, Mirror.moves(there, way));
+            Due.due("exchanged beside knights", x.claims(), 0);
+            Boards.playAll(x, Mirror.moves(back, way));
+            Due.due("back again beside knights", x.claims(), 0);
+            Boards.playAll(x, Mirror.moves(there + " " + back, way));
+            Due.due("three times beside knights", x.claims(), 1);
+        }
     }
 
     private static void notByWhichOfTwoPieces() {

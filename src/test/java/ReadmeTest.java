@@ -9,7 +9,7 @@ import java.util.regex.Matcher;
 import java.util.regex.Pattern;
 import java.util.stream.Stream;
 
-/** README.md tells the truth: its calls answer what stands behind them, and its tables are whole. */
+/** README.md and SENTENCES.md tell the truth: calls answer what stands behind them, tables are whole. */
 public final class ReadmeTest {
     private static final Pattern CALL =
         Pattern.compile("game\\.(\\w+)\\(([-\\d, ]*)\\);(?: +// (true|false|-?\\d+): (?:([A-Z]+)\\b)?.*)?");
@@ -21,6 +21,7 @@ public final class ReadmeTest {
         codes(text);
         methods(text);
         tests(text);
+        sentences(Files.readString(Path.of("src/test/SENTENCES.md")));
         Due.finish();
     }
 
@@ -68,6 +69,25 @@ public final class ReadmeTest {
             if (Modifier.isPublic(method.getModifiers())) {
                 Due.due("a row for " + method.getName(), text.contains("\n| `" + method.getName() + "("), true);
             }
+        }
+    }
+
+    private static void sentences(String text) {
+        Matcher name = Pattern.compile("`(\\w+Test)(?:\\.(\\w+))?`").matcher(text);
+        int seen = 0;
+        while (name.find()) {
+            seen++;
+            Due.due("there is " + name.group(), isThere(name.group(1), name.group(2)), true);
+        }
+        Due.due("tests are named", seen > 100, true);
+    }
+
+    private static boolean isThere(String test, String method) {
+        try {
+            Method[] methods = Class.forName(test).getDeclaredMethods();
+            return method == null || Stream.of(methods).anyMatch(m -> m.getName().equals(method));
+        } catch (ClassNotFoundException e) {
+            return false;
         }
     }
 
